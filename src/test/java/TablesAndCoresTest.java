@@ -1,0 +1,340 @@
+/** Promises 1 to 7. */
+public final class TablesAndCoresTest {
+    private static final int NONE = ShootDown.NONE;
+    private static final int UNKNOWN = ShootDown.UNKNOWN;
+    private static final int OUTSIDE = ShootDown.OUTSIDE;
+    private static final int STATE = ShootDown.STATE;
+    private static final int[] WILD = {-1, Integer.MIN_VALUE, Integer.MAX_VALUE};
+
+    private TablesAndCoresTest() {
+    }
+
+    public static void main(String[] args) {
+        promise1NewObject();
+        promise2Cores();
+        promise2CoresAllAsAtFirst();
+        promise3Map();
+        promise4Entry();
+        promise5Enter();
+        promise5EnterTakesCallsFirst();
+        promise5EnterForgetsWhenBehind();
+        promise5EnterRefusals();
+        promise6Sleep();
+        promise6SleepRefusals();
+        promise7Wake();
+        promise7WakeForgetsItsSpaceOnly();
+        Due.finish();
+    }
+
+    private static void promise1NewObject() {
+        ShootDown x = new ShootDown();
+        asAtFirst("new", x, 2);
+    }
+
+    private static void asAtFirst(String when, ShootDown x, int cores) {
+        Due.due(when + ": cores", x.count(0), cores);
+        for (int what = 1; what < 13; what++) {
+            Due.due(when + ": count " + what, x.count(what), 0);
+        }
+        Due.due(when + ": seen", x.seen(), 0);
+        Due.due(when + ": how", x.how(), 0);
+        for (int c = 0; c < cores; c++) {
+            Due.due(when + ": space", x.core(c, 0), 0);
+            Due.due(when + ": awake", x.core(c, 1), 1);
+            for (int what = 2; what < 7; what++) {
+                Due.due(when + ": core " + what, x.core(c, what), 0);
+            }
+            Due.due(when + ": underWay", x.underWay(c), NONE);
+        }
+        for (int c = cores; c < 4; c++) {
+            Due.due(when + ": no core " + c, x.core(c, 0), UNKNOWN);
+        }
+        for (int s = 0; s < 3; s++) {
+            for (int page = 0; page < 16; page++) {
+                Due.due(when + ": entry", x.entry(s, page), NONE);
+                Due.due(when + ": history", x.history(s, page, 0), 0);
+                Due.due(when + ": it was NONE", x.seen(), NONE);
+                Due.due(when + ": history ends", x.history(s, page, 1), NONE);
+            }
+        }
+        Due.due(when + ": no shoot", x.shoot(0, 0), UNKNOWN);
+    }
+
+    private static void promise2Cores() {
+        ShootDown x = new ShootDown();
+        Due.due("cores(4)", x.cores(4), 2);
+        asAtFirst("cores(4)", x, 4);
+        Due.due("cores(1)", x.cores(1), 4);
+        asAtFirst("cores(1)", x, 1);
+        Due.due("cores(3)", x.cores(3), 1);
+        asAtFirst("cores(3)", x, 3);
+        Due.due("cores(3) again", x.cores(3), 3);
+        x.map(0, 0, 1, true);
+        Due.refused("cores(0)", x, y -> y.cores(0), OUTSIDE);
+        Due.refused("cores(5)", x, y -> y.cores(5), OUTSIDE);
+        for (int n : WILD) {
+            Due.refused("cores(" + n + ")", x, y -> y.cores(n), OUTSIDE);
+        }
+    }
+
+    private static void promise2CoresAllAsAtFirst() {
+        ShootDown x = busy();
+        Due.due("cores(2) of a busy object", x.cores(2), 4);
+        asAtFirst("busy, cores(2)", x, 2);
+        ShootDown fresh = new ShootDown();
+        fresh.cores(4);
+        x = busy();
+        x.cores(4);
+        Due.due("as a new one", Due.allTold(x).equals(Due.allTold(fresh)));
+        x.map(0, 3, 5, true);
+        fresh.map(0, 3, 5, true);
+        x.look(1, 3, false);
+        fresh.look(1, 3, false);
+        x.unmap(0, 0, 3);
+        fresh.unmap(0, 0, 3);
+        x.rounds(2, 9);
+        fresh.rounds(2, 9);
+        Due.due("and goes on as one", Due.allTold(x).equals(Due.allTold(fresh)));
+    }
+
+    /** Something of everything: notes, calls in queues, cores asleep and elsewhere, shoots done and not. */
+    private static ShootDown busy() {
+        ShootDown x = new ShootDown();
+        x.cores(4);
+        x.map(0, 0, 1, true);
+        x.map(0, 1, 2, false);
+        x.map(1, 2, 3, true);
+        for (int c = 0; c < 4; c++) {
+            x.look(c, 0, true);
+            x.look(c, 1, false);
+            x.look(c, 0, false);
+        }
+        x.sleep(3);
+        x.remap(0, 0, 0, 9, true);
+        x.look(1, 0, false);
+        x.look(1, 9, false);
+        x.take(1);
+        x.unmap(1, 0, 1);
+        x.enter(2, 1);
+        x.wake(3);
+        x.history(0, 0, 1);
+        return x;
+    }
+
+    private static void promise3Map() {
+        ShootDown x = new ShootDown();
+        Due.due("map(0, 0, 0, false)", x.map(0, 0, 0, false), 1);
+        Due.due("its entry", x.entry(0, 0), 0);
+        Due.due("map(2, 15, 255, true)", x.map(2, 15, 255, true), 1);
+        Due.due("its entry", x.entry(2, 15), 511);
+        Due.due("map(1, 7, 255, false)", x.map(1, 7, 255, false), 1);
+        Due.due("its entry", x.entry(1, 7), 255);
+        Due.due("map(1, 8, 0, true)", x.map(1, 8, 0, true), 1);
+        Due.due("its entry", x.entry(1, 8), 256);
+        Due.due("each counts", x.count(1), 4);
+        Due.due("without a shoot", x.count(2), 0);
+        Due.due("no generation", x.count(10) + x.count(11) + x.count(12), 0);
+        Due.due("from its time on", x.history(2, 15, 1), 2);
+        Due.refused("mapped already", x, y -> y.map(0, 0, 5, true), STATE);
+        Due.refused("frame ahead of state", x, y -> y.map(0, 0, 256, true), OUTSIDE);
+        Due.refused("frame -1", x, y -> y.map(0, 1, -1, true), OUTSIDE);
+        Due.refused("frame 256", x, y -> y.map(0, 1, 256, false), OUTSIDE);
+        Due.refused("space 3", x, y -> y.map(3, 0, 1, true), UNKNOWN);
+        Due.refused("page 16", x, y -> y.map(0, 16, 1, true), UNKNOWN);
+        for (int n : WILD) {
+            Due.refused("space " + n, x, y -> y.map(n, 0, n, true), UNKNOWN);
+            Due.refused("page " + n, x, y -> y.map(0, n, n, true), UNKNOWN);
+            Due.refused("frame " + n, x, y -> y.map(0, 1, n, true), OUTSIDE);
+        }
+        x.unmap(0, 0, 0);
+        Due.due("mapped again", x.map(0, 0, 6, true), 1);
+    }
+
+    private static void promise4Entry() {
+        ShootDown x = new ShootDown();
+        Due.due("none yet", x.entry(2, 4), NONE);
+        x.map(2, 4, 77, true);
+        Due.due("writable", x.entry(2, 4), 256 + 77);
+        Due.due("no other space", x.entry(1, 4), NONE);
+        Due.due("no other page", x.entry(2, 5), NONE);
+        x.remap(0, 2, 4, 78, false);
+        Due.due("remapped", x.entry(2, 4), 78);
+        x.unmap(1, 2, 4);
+        Due.due("unmapped", x.entry(2, 4), NONE);
+        Due.due("no time goes", x.count(1), 3);
+        Due.refused("space 3", x, y -> y.entry(3, 0), UNKNOWN);
+        Due.refused("page 16", x, y -> y.entry(0, 16), UNKNOWN);
+        for (int n : WILD) {
+            Due.refused("space " + n, x, y -> y.entry(n, 0), UNKNOWN);
+            Due.refused("page " + n, x, y -> y.entry(0, n), UNKNOWN);
+        }
+    }
+
+    private static void promise5Enter() {
+        ShootDown x = new ShootDown();
+        Due.due("enter(1, 2)", x.enter(1, 2), 0);
+        Due.due("its space", x.core(1, 0), 2);
+        Due.due("the other's space", x.core(0, 0), 0);
+        Due.due("time", x.count(1), 1);
+        x.map(2, 3, 30, true);
+        Due.due("looks there", x.look(1, 3, false), 30);
+        Due.due("the other does not", x.look(0, 3, false), ShootDown.FAULT);
+        Due.due("enter(1, 0)", x.enter(1, 0), 0);
+        Due.due("keeps its note of elsewhere", x.core(1, 2), 1);
+        Due.due("enter(1, 2) again", x.enter(1, 2), 0);
+        x.look(1, 3, false);
+        Due.due("hit after coming back, not behind", x.how(), 1);
+    }
+
+    private static void promise5EnterTakesCallsFirst() {
+        ShootDown x = new ShootDown();
+        x.cores(3);
+        x.map(0, 0, 1, true);
+        x.map(0, 1, 2, true);
+        x.look(2, 0, false);
+        x.look(2, 1, false);
+        x.unmap(0, 0, 0);
+        x.unmap(1, 0, 1);
+        Due.due("calls wait", x.core(2, 3), 2);
+        x.take(0);
+        x.take(1);
+        Due.due("notes of calls are not those of coming", x.enter(2, 1), 0);
+        Due.due("no calls left", x.core(2, 3), 0);
+        Due.due("notes went with the calls", x.core(2, 2), 0);
+        Due.due("calls taken", x.count(8), 4);
+        Due.due("none forgotten by coming", x.count(9), 0);
+        Due.due("first is done at this time", x.shoot(0, 6), x.count(1));
+        Due.due("second is done at this time", x.shoot(1, 6), x.count(1));
+        Due.due("up to the second", x.core(2, 4), 2);
+    }
+
+    private static void promise5EnterForgetsWhenBehind() {
+        ShootDown x = new ShootDown();
+        for (int page = 0; page < 4; page++) {
+            x.map(0, page, page, true);
+        }
+        x.map(1, 5, 50, true);
+        x.look(1, 0, false);
+        x.look(1, 1, false);
+        x.enter(1, 1);
+        x.look(1, 5, false);
+        x.unmap(0, 0, 3);
+        Due.due("not called elsewhere", x.core(1, 3), 0);
+        Due.due("keeps notes until it comes", x.core(1, 2), 3);
+        Due.due("all of that space go", x.enter(1, 0), 2);
+        Due.due("the other space's stays", x.note(1, 0, 0), 1);
+        Due.due("one note is left", x.core(1, 2), 1);
+        Due.due("has its generation", x.core(1, 4), 1);
+        Due.due("counted", x.count(9), 2);
+        x.look(1, 1, false);
+        x.enter(1, 2);
+        Due.due("not behind, none go", x.enter(1, 0), 0);
+        Due.due("still counted so", x.count(9), 2);
+    }
+
+    private static void promise5EnterRefusals() {
+        ShootDown x = new ShootDown();
+        Due.refused("has it", x, y -> y.enter(0, 0), STATE);
+        Due.refused("core 2", x, y -> y.enter(2, 1), UNKNOWN);
+        Due.refused("space 3", x, y -> y.enter(0, 3), UNKNOWN);
+        for (int n : WILD) {
+            Due.refused("core " + n, x, y -> y.enter(n, 1), UNKNOWN);
+            Due.refused("space " + n, x, y -> y.enter(0, n), UNKNOWN);
+        }
+        x.map(0, 0, 1, true);
+        x.unmap(0, 0, 0);
+        Due.refused("under way", x, y -> y.enter(0, 1), STATE);
+        Due.refused("unknown ahead of state", x, y -> y.enter(0, 3), UNKNOWN);
+        x.take(1);
+        Due.due("done, so it may", x.enter(0, 1), 0);
+        x.sleep(1);
+        Due.refused("asleep", x, y -> y.enter(1, 1), STATE);
+    }
+
+    private static void promise6Sleep() {
+        ShootDown x = new ShootDown();
+        x.cores(4);
+        for (int page = 0; page < 3; page++) {
+            x.map(0, page, page, true);
+            x.look(3, page, false);
+        }
+        x.unmap(0, 0, 0);
+        x.unmap(1, 0, 1);
+        Due.due("two calls", x.core(3, 3), 2);
+        Due.due("sleep(3)", x.sleep(3), 2);
+        Due.due("asleep", x.core(3, 1), 0);
+        Due.due("queue", x.core(3, 3), 0);
+        Due.due("the third note stays", x.core(3, 2), 1);
+        Due.due("calls taken", x.count(8), 2);
+        Due.due("none forgotten by waking", x.count(9), 0);
+        Due.due("time", x.count(1), 9);
+        Due.due("not waited for", x.shoot(0, 11) + x.shoot(1, 11), 0);
+        x.rounds(0, 4);
+        int k = x.unmap(2, 0, 2);
+        Due.due("not called while asleep", x.core(3, 3), 0);
+        Due.due("nor waited for", x.shoot(k, 11), 0);
+        Due.due("the others are", x.shoot(k, 7), 2);
+        Due.due("no calls: 0", x.take(0) == k && x.take(1) == k ? x.sleep(0) : -9, 0);
+    }
+
+    private static void promise6SleepRefusals() {
+        ShootDown x = new ShootDown();
+        Due.refused("core 2", x, y -> y.sleep(2), UNKNOWN);
+        for (int n : WILD) {
+            Due.refused("core " + n, x, y -> y.sleep(n), UNKNOWN);
+        }
+        x.map(0, 0, 1, true);
+        x.unmap(0, 0, 0);
+        Due.refused("under way", x, y -> y.sleep(0), STATE);
+        Due.due("sleeping answers the call", x.sleep(1), 1);
+        Due.due("so it is done", x.shoot(0, 5), 1);
+        Due.refused("asleep", x, y -> y.sleep(1), STATE);
+        Due.due("now core 0 may", x.sleep(0), 0);
+    }
+
+    private static void promise7Wake() {
+        ShootDown x = new ShootDown();
+        for (int page = 0; page < 4; page++) {
+            x.map(0, page, page, true);
+            x.look(1, page, false);
+        }
+        x.sleep(1);
+        Due.due("nothing happened", x.wake(1), 0);
+        Due.due("keeps its notes", x.core(1, 2), 4);
+        Due.due("awake", x.core(1, 1), 1);
+        x.sleep(1);
+        x.unmap(0, 0, 2);
+        Due.due("done at once", x.shoot(0, 6), x.count(1));
+        Due.due("behind as it wakes", x.wake(1), 4);
+        Due.due("no notes", x.core(1, 2), 0);
+        Due.due("generation", x.core(1, 4), 1);
+        Due.due("counted", x.count(9), 4);
+        Due.due("time", x.count(1), 13);
+        Due.refused("awake", x, y -> y.wake(1), STATE);
+        Due.refused("core 2", x, y -> y.wake(2), UNKNOWN);
+        for (int n : WILD) {
+            Due.refused("core " + n, x, y -> y.wake(n), UNKNOWN);
+        }
+    }
+
+    private static void promise7WakeForgetsItsSpaceOnly() {
+        ShootDown x = new ShootDown();
+        x.map(0, 0, 1, true);
+        x.map(1, 0, 2, true);
+        x.map(1, 1, 3, true);
+        x.look(1, 0, false);
+        x.enter(1, 1);
+        x.look(1, 0, false);
+        x.sleep(1);
+        x.unmap(0, 0, 0);
+        Due.due("behind elsewhere only", x.wake(1), 0);
+        Due.due("keeps both", x.core(1, 2), 2);
+        Due.due("generation elsewhere stays", x.core(1, 4), 0);
+        x.sleep(1);
+        x.unmap(0, 1, 1);
+        Due.due("behind here", x.wake(1), 1);
+        Due.due("keeps the other", x.note(1, 0, 0), 0);
+        Due.due("generation here", x.core(1, 5), 1);
+        Due.due("generation elsewhere still", x.core(1, 4), 0);
+    }
+}

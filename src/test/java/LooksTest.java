@@ -104,6 +104,7 @@ public final class LooksTest {
         Due.due("four", x.core(0, 2), 4);
         Due.due("a hit makes no note younger", x.note(0, 0, 1), 1);
         Due.due("the youngest is last", x.note(0, 3, 1), 4);
+        Due.due("each keeps its time", x.note(0, 0, 4) * 100 + x.note(0, 3, 4), 812);
         x.look(0, 5, true);
         Due.due("the next eldest", x.note(0, 0, 1), 2);
         Due.due("its frame", x.note(0, 0, 2), 12);

@@ -13,6 +13,7 @@ public final class TablesAndCoresTest {
         promise1NewObject();
         promise2Cores();
         promise2CoresAllAsAtFirst();
+        promise2CoresAfterFullHistoryAndOpenShoot();
         promise3Map();
         promise4Entry();
         promise5Enter();
@@ -95,6 +96,27 @@ public final class TablesAndCoresTest {
         x.rounds(2, 9);
         fresh.rounds(2, 9);
         Due.due("and goes on as one", Due.allTold(x).equals(Due.allTold(fresh)));
+    }
+
+    private static void promise2CoresAfterFullHistoryAndOpenShoot() {
+        ShootDown x = new ShootDown();
+        x.cores(1);
+        for (int i = 0; i < 12; i++) {
+            x.map(0, 0, i, true);
+            x.unmap(0, 0, 0);
+        }
+        Due.due("the first is lost", x.history(0, 0, 0), 5);
+        x.cores(2);
+        Due.due("the first is there again", x.history(0, 0, 0), 0);
+        x.map(0, 1, 1, true);
+        x.unmap(0, 0, 1);
+        Due.due("open", x.shoot(0, 7), 1);
+        x.cores(2);
+        x.sleep(1);
+        x.map(0, 1, 1, true);
+        x.unmap(0, 0, 1);
+        Due.due("waits for none of before", x.shoot(0, 5), 1);
+        Due.due("nor has it a call", x.wake(1) == 0 ? x.take(1) : -9, NONE);
     }
 
     /** Something of everything: notes, calls in queues, cores asleep and elsewhere, shoots done and not. */

@@ -627,9 +627,12 @@ public final class ShootDown {
 
         private void startAgain() {
             Arrays.fill(spaces, 0);
-            Arrays.fill(awake, true);
             Arrays.fill(shootsUnderWay, NONE);
             Arrays.fill(generations, 0);
+            // Arrays.fill is for rows of numbers alone.
+            for (int c = 0; c < MOST_CORES; c++) {
+                awake[c] = true;
+            }
         }
 
         private boolean isAwakeIn(int c, int s) {

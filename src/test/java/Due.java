@@ -1,9 +1,10 @@
-import java.util.ArrayList;
 import java.util.List;
 import java.util.function.ToLongFunction;
 
 /** What the tests share: comparing answers with those due, and telling how it went. */
 final class Due {
+    private static final int MOST_LINES = 50;
+
     private static int wrong = 0;
 
     private Due() {
@@ -12,7 +13,9 @@ final class Due {
     static void due(String call, long got, long want) {
         if (got != want) {
             wrong++;
-            System.out.println(call + " answered " + got + ", due is " + want);
+            if (wrong <= MOST_LINES) {
+                System.out.println(call + " answered " + got + ", due is " + want);
+            }
         }
     }
 
@@ -20,44 +23,48 @@ final class Due {
         due(what, holds ? 1 : 0, 1);
     }
 
-    /** The call is refused as is due, and nothing that the object tells is another afterwards. */
-    static void refused(String call, ShootDown x, ToLongFunction<ShootDown> run, long want) {
-        // Reading the history sets SEEN, so the first reading brings it to rest.
-        allTold(x);
-        List<Long> before = allTold(x);
+    /** The call is refused as is due, and neither what the object tells nor how it goes on is another for it. */
+    static void refused(String call, Subject x, ToLongFunction<Face> run, long want) {
+        Subject without = x.copy();
         due(call, run.applyAsLong(x), want);
-        due(call + " changes nothing", allTold(x).equals(before));
+        alike(call + " changes nothing", x, without);
     }
 
-    static List<Long> allTold(ShootDown x) {
-        List<Long> told = new ArrayList<>();
-        told.add((long) x.seen());
-        told.add((long) x.how());
-        told.add(x.digest());
-        for (int what = 0; what < 13; what++) {
-            told.add((long) x.count(what));
+    /** Both objects tell the same, and go on in the same way. They themselves are left as they are. */
+    static void alike(String what, Subject x, Subject y) {
+        List<Call> reading = Probes.reading();
+        int last = reading.size() - 1;
+        int next = 0;
+        while (next < last) {
+            int compared = compare(what, x, y, reading.subList(next, last + 1));
+            if (compared < 2) {
+                due(what + " can be told", compared < 0);
+                return;
+            }
+            // The last of these is called again, so that seen() always follows the history() that it belongs to.
+            next += compared - 1;
         }
-        for (int c = 0; c < 4; c++) {
-            told.add((long) x.underWay(c));
-            for (int k = 0; k < 4; k++) {
-                told.add((long) x.wasSo(c, k));
+        for (List<Call> calls : Probes.goingOn()) {
+            if (compare(what, x, y, calls) < 0) {
+                return;
             }
         }
-        for (int k = 0; k < x.count(2); k++) {
-            for (int what = 0; what < 12; what++) {
-                told.add((long) x.shoot(k, what));
+    }
+
+    /** Compares as many of the answers as the objects have calls left: how many; -1 where they differ. */
+    private static int compare(String what, Subject x, Subject y, List<Call> calls) {
+        Subject one = x.copy();
+        Subject other = y.copy();
+        int most = Math.min(calls.size(), Math.min(one.callsLeft(), other.callsLeft()));
+        for (int i = 0; i < most; i++) {
+            long got = calls.get(i).of(one);
+            long want = calls.get(i).of(other);
+            if (got != want) {
+                due(what + ", but " + calls.get(i).text() + " then", got, want);
+                return -1;
             }
         }
-        for (int s = 0; s < 3; s++) {
-            for (int page = 0; page < 16; page++) {
-                told.add((long) x.danger(s, page));
-                for (int k = 0; k < 20; k++) {
-                    told.add((long) x.history(s, page, k));
-                    told.add((long) x.seen());
-                }
-            }
-        }
-        return told;
+        return most;
     }
 
     static void finish() {

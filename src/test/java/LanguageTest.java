@@ -113,19 +113,25 @@ public final class LanguageTest {
         return Modifier.isStatic(member.getModifiers());
     }
 
+    /** What a program can see of the rules in the text, comments left out. */
     private static void theText(List<String> lines) {
         String code = lines.stream().filter(line -> !line.matches("\\s*(//|/?\\*).*"))
             .collect(Collectors.joining("\n"));
-        none(code, "\\b(throw|throws|try|catch|finally|synchronized|assert|package|native|volatile|transient)\\b");
-        none(code, "\\b(instanceof|while|do|float|double|String|Object|Override|System\\.(?!arraycopy))\\b");
-        none(code, "->|::|\"|@|[^\\x00-\\x7f]");
-        none(code, "import (?!java\\.util\\.Arrays;)");
-        none(code, "Arrays\\.(?!fill\\b)|Math\\.(?!max\\b)|Integer\\.(?!bitCount\\b)");
-        none(code, "\\bstatic (?!final|int |boolean )");
-        // What a call makes is counted in the room: nothing is made but in fields, once for each object.
-        none(code, "(?m)^(?! +private final .*;$).*\\bnew \\w+");
-        none(code, "[^|&=!<>+*/%-][/%]=? ");
+        none(code, "\\b(package|throw|throws|try|catch|finally|synchronized|assert|native|volatile)\\b");
+        none(code, "::|@(?!Override)|[^\\x00-\\x7f]");
+        none(code, "(?m)^(?! *(case|default)\\b).*->");
+        none(code, "import (?!java\\.util\\.(Arrays|ArrayList|List|Iterator);)");
+        none(code, "\\bSystem\\.(?!arraycopy\\b)|\\bArrays\\.(?!fill\\b|copyOf\\b|copyOfRange\\b)|\\b\\w+Exact\\b");
+        none(code, "\\bstatic \\{");
+        for (String row : rowsOfNoNumbers(code)) {
+            none(code, "\\bArrays\\.\\w+\\((\\w+\\.)?" + row + "\\b");
+        }
         methodsAreShort(lines);
+    }
+
+    private static Set<String> rowsOfNoNumbers(String code) {
+        Matcher found = Pattern.compile("\\b(boolean|[A-Z]\\w*)\\[\\] (\\w+)").matcher(code);
+        return found.results().map(row -> row.group(2)).collect(Collectors.toSet());
     }
 
     private static void none(String code, String banned) {
@@ -135,17 +141,14 @@ public final class LanguageTest {
 
     private static void methodsAreShort(List<String> lines) {
         int start = -1;
-        int methods = 0;
         for (int i = 0; i < lines.size(); i++) {
             if (lines.get(i).matches(" +(public|private) (static )?(\\w+ )?\\w+\\(.*\\) \\{")) {
                 start = i;
-                methods++;
             }
             if (start >= 0 && lines.get(i).equals(lines.get(start).replaceAll("\\S.*", "") + "}")) {
                 Due.due("length of" + lines.get(start), i - start < LONGEST_METHOD);
                 start = -1;
             }
         }
-        Due.due("methods were found", methods > METHODS.size());
     }
 }

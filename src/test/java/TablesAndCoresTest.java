@@ -2,9 +2,6 @@
 public final class TablesAndCoresTest {
     private static final int NONE = ShootDown.NONE;
     private static final int UNKNOWN = ShootDown.UNKNOWN;
-    private static final int OUTSIDE = ShootDown.OUTSIDE;
-    private static final int STATE = ShootDown.STATE;
-    private static final int[] WILD = {-1, Integer.MIN_VALUE, Integer.MAX_VALUE};
 
     private TablesAndCoresTest() {
     }
@@ -12,6 +9,7 @@ public final class TablesAndCoresTest {
     public static void main(String[] args) {
         promise1NewObject();
         promise2Cores();
+        promise2CoresFromEachToEach();
         promise2CoresAllAsAtFirst();
         promise2CoresAfterFullHistoryAndOpenShoot();
         promise3Map();
@@ -19,20 +17,19 @@ public final class TablesAndCoresTest {
         promise5Enter();
         promise5EnterTakesCallsFirst();
         promise5EnterForgetsWhenBehind();
-        promise5EnterRefusals();
         promise6Sleep();
-        promise6SleepRefusals();
         promise7Wake();
         promise7WakeForgetsItsSpaceOnly();
         Due.finish();
     }
 
     private static void promise1NewObject() {
-        ShootDown x = new ShootDown();
-        asAtFirst("new", x, 2);
+        asAtFirst("new", new Subject(), 2);
+        Due.alike("as by cores(2)", new Subject(), Subject.ofCores(2));
     }
 
-    private static void asAtFirst(String when, ShootDown x, int cores) {
+    private static void asAtFirst(String when, Subject told, int cores) {
+        Subject x = told.copy();
         Due.due(when + ": cores", x.count(0), cores);
         for (int what = 1; what < 13; what++) {
             Due.due(when + ": count " + what, x.count(what), 0);
@@ -62,7 +59,7 @@ public final class TablesAndCoresTest {
     }
 
     private static void promise2Cores() {
-        ShootDown x = new ShootDown();
+        Subject x = new Subject();
         Due.due("cores(4)", x.cores(4), 2);
         asAtFirst("cores(4)", x, 4);
         Due.due("cores(1)", x.cores(1), 4);
@@ -70,23 +67,30 @@ public final class TablesAndCoresTest {
         Due.due("cores(3)", x.cores(3), 1);
         asAtFirst("cores(3)", x, 3);
         Due.due("cores(3) again", x.cores(3), 3);
-        x.map(0, 0, 1, true);
-        Due.refused("cores(0)", x, y -> y.cores(0), OUTSIDE);
-        Due.refused("cores(5)", x, y -> y.cores(5), OUTSIDE);
-        for (int n : WILD) {
-            Due.refused("cores(" + n + ")", x, y -> y.cores(n), OUTSIDE);
+    }
+
+    private static void promise2CoresFromEachToEach() {
+        for (int n = 1; n <= 4; n++) {
+            for (int next = 1; next <= 4; next++) {
+                Subject x = Subject.ofCores(n);
+                Due.due("cores(" + next + ") of " + n, x.cores(next), n);
+                Due.due("as many", x.count(0), next);
+                Due.due("the last", x.core(next - 1, 1), 1);
+                Due.due("no next one", x.core(next, 1), UNKNOWN);
+            }
         }
     }
 
     private static void promise2CoresAllAsAtFirst() {
-        ShootDown x = busy();
+        Subject x = busy();
         Due.due("cores(2) of a busy object", x.cores(2), 4);
         asAtFirst("busy, cores(2)", x, 2);
-        ShootDown fresh = new ShootDown();
-        fresh.cores(4);
-        x = busy();
-        x.cores(4);
-        Due.due("as a new one", Due.allTold(x).equals(Due.allTold(fresh)));
+        for (int n = 1; n <= 4; n++) {
+            x = busy();
+            x.cores(n);
+            Due.alike("as a new one", x, Subject.ofCores(n));
+        }
+        Subject fresh = Subject.ofCores(4);
         x.map(0, 3, 5, true);
         fresh.map(0, 3, 5, true);
         x.look(1, 3, false);
@@ -95,12 +99,11 @@ public final class TablesAndCoresTest {
         fresh.unmap(0, 0, 3);
         x.rounds(2, 9);
         fresh.rounds(2, 9);
-        Due.due("and goes on as one", Due.allTold(x).equals(Due.allTold(fresh)));
+        Due.alike("and goes on as one", x, fresh);
     }
 
     private static void promise2CoresAfterFullHistoryAndOpenShoot() {
-        ShootDown x = new ShootDown();
-        x.cores(1);
+        Subject x = Subject.ofCores(1);
         for (int i = 0; i < 12; i++) {
             x.map(0, 0, i, true);
             x.unmap(0, 0, 0);
@@ -120,9 +123,8 @@ public final class TablesAndCoresTest {
     }
 
     /** Something of everything: notes, calls in queues, cores asleep and elsewhere, shoots done and not. */
-    private static ShootDown busy() {
-        ShootDown x = new ShootDown();
-        x.cores(4);
+    private static Subject busy() {
+        Subject x = Subject.ofCores(4);
         x.map(0, 0, 1, true);
         x.map(0, 1, 2, false);
         x.map(1, 2, 3, true);
@@ -144,7 +146,7 @@ public final class TablesAndCoresTest {
     }
 
     private static void promise3Map() {
-        ShootDown x = new ShootDown();
+        Subject x = new Subject();
         Due.due("map(0, 0, 0, false)", x.map(0, 0, 0, false), 1);
         Due.due("its entry", x.entry(0, 0), 0);
         Due.due("map(2, 15, 255, true)", x.map(2, 15, 255, true), 1);
@@ -157,23 +159,12 @@ public final class TablesAndCoresTest {
         Due.due("without a shoot", x.count(2), 0);
         Due.due("no generation", x.count(10) + x.count(11) + x.count(12), 0);
         Due.due("from its time on", x.history(2, 15, 1), 2);
-        Due.refused("mapped already", x, y -> y.map(0, 0, 5, true), STATE);
-        Due.refused("frame ahead of state", x, y -> y.map(0, 0, 256, true), OUTSIDE);
-        Due.refused("frame -1", x, y -> y.map(0, 1, -1, true), OUTSIDE);
-        Due.refused("frame 256", x, y -> y.map(0, 1, 256, false), OUTSIDE);
-        Due.refused("space 3", x, y -> y.map(3, 0, 1, true), UNKNOWN);
-        Due.refused("page 16", x, y -> y.map(0, 16, 1, true), UNKNOWN);
-        for (int n : WILD) {
-            Due.refused("space " + n, x, y -> y.map(n, 0, n, true), UNKNOWN);
-            Due.refused("page " + n, x, y -> y.map(0, n, n, true), UNKNOWN);
-            Due.refused("frame " + n, x, y -> y.map(0, 1, n, true), OUTSIDE);
-        }
         x.unmap(0, 0, 0);
         Due.due("mapped again", x.map(0, 0, 6, true), 1);
     }
 
     private static void promise4Entry() {
-        ShootDown x = new ShootDown();
+        Subject x = new Subject();
         Due.due("none yet", x.entry(2, 4), NONE);
         x.map(2, 4, 77, true);
         Due.due("writable", x.entry(2, 4), 256 + 77);
@@ -184,16 +175,10 @@ public final class TablesAndCoresTest {
         x.unmap(1, 2, 4);
         Due.due("unmapped", x.entry(2, 4), NONE);
         Due.due("no time goes", x.count(1), 3);
-        Due.refused("space 3", x, y -> y.entry(3, 0), UNKNOWN);
-        Due.refused("page 16", x, y -> y.entry(0, 16), UNKNOWN);
-        for (int n : WILD) {
-            Due.refused("space " + n, x, y -> y.entry(n, 0), UNKNOWN);
-            Due.refused("page " + n, x, y -> y.entry(0, n), UNKNOWN);
-        }
     }
 
     private static void promise5Enter() {
-        ShootDown x = new ShootDown();
+        Subject x = new Subject();
         Due.due("enter(1, 2)", x.enter(1, 2), 0);
         Due.due("its space", x.core(1, 0), 2);
         Due.due("the other's space", x.core(0, 0), 0);
@@ -209,8 +194,7 @@ public final class TablesAndCoresTest {
     }
 
     private static void promise5EnterTakesCallsFirst() {
-        ShootDown x = new ShootDown();
-        x.cores(3);
+        Subject x = Subject.ofCores(3);
         x.map(0, 0, 1, true);
         x.map(0, 1, 2, true);
         x.look(2, 0, false);
@@ -231,7 +215,7 @@ public final class TablesAndCoresTest {
     }
 
     private static void promise5EnterForgetsWhenBehind() {
-        ShootDown x = new ShootDown();
+        Subject x = new Subject();
         for (int page = 0; page < 4; page++) {
             x.map(0, page, page, true);
         }
@@ -254,28 +238,8 @@ public final class TablesAndCoresTest {
         Due.due("still counted so", x.count(9), 2);
     }
 
-    private static void promise5EnterRefusals() {
-        ShootDown x = new ShootDown();
-        Due.refused("has it", x, y -> y.enter(0, 0), STATE);
-        Due.refused("core 2", x, y -> y.enter(2, 1), UNKNOWN);
-        Due.refused("space 3", x, y -> y.enter(0, 3), UNKNOWN);
-        for (int n : WILD) {
-            Due.refused("core " + n, x, y -> y.enter(n, 1), UNKNOWN);
-            Due.refused("space " + n, x, y -> y.enter(0, n), UNKNOWN);
-        }
-        x.map(0, 0, 1, true);
-        x.unmap(0, 0, 0);
-        Due.refused("under way", x, y -> y.enter(0, 1), STATE);
-        Due.refused("unknown ahead of state", x, y -> y.enter(0, 3), UNKNOWN);
-        x.take(1);
-        Due.due("done, so it may", x.enter(0, 1), 0);
-        x.sleep(1);
-        Due.refused("asleep", x, y -> y.enter(1, 1), STATE);
-    }
-
     private static void promise6Sleep() {
-        ShootDown x = new ShootDown();
-        x.cores(4);
+        Subject x = Subject.ofCores(4);
         for (int page = 0; page < 3; page++) {
             x.map(0, page, page, true);
             x.look(3, page, false);
@@ -299,23 +263,8 @@ public final class TablesAndCoresTest {
         Due.due("no calls: 0", x.take(0) == k && x.take(1) == k ? x.sleep(0) : -9, 0);
     }
 
-    private static void promise6SleepRefusals() {
-        ShootDown x = new ShootDown();
-        Due.refused("core 2", x, y -> y.sleep(2), UNKNOWN);
-        for (int n : WILD) {
-            Due.refused("core " + n, x, y -> y.sleep(n), UNKNOWN);
-        }
-        x.map(0, 0, 1, true);
-        x.unmap(0, 0, 0);
-        Due.refused("under way", x, y -> y.sleep(0), STATE);
-        Due.due("sleeping answers the call", x.sleep(1), 1);
-        Due.due("so it is done", x.shoot(0, 5), 1);
-        Due.refused("asleep", x, y -> y.sleep(1), STATE);
-        Due.due("now core 0 may", x.sleep(0), 0);
-    }
-
     private static void promise7Wake() {
-        ShootDown x = new ShootDown();
+        Subject x = new Subject();
         for (int page = 0; page < 4; page++) {
             x.map(0, page, page, true);
             x.look(1, page, false);
@@ -332,15 +281,10 @@ public final class TablesAndCoresTest {
         Due.due("generation", x.core(1, 4), 1);
         Due.due("counted", x.count(9), 4);
         Due.due("time", x.count(1), 13);
-        Due.refused("awake", x, y -> y.wake(1), STATE);
-        Due.refused("core 2", x, y -> y.wake(2), UNKNOWN);
-        for (int n : WILD) {
-            Due.refused("core " + n, x, y -> y.wake(n), UNKNOWN);
-        }
     }
 
     private static void promise7WakeForgetsItsSpaceOnly() {
-        ShootDown x = new ShootDown();
+        Subject x = new Subject();
         x.map(0, 0, 1, true);
         x.map(1, 0, 2, true);
         x.map(1, 1, 3, true);

@@ -319,20 +319,24 @@ public final class TermsTest {
         Due.due("how", none.how(), 1);
     }
 
-    /** map() is without a shoot, and makes a note of what was ahead of it neither forgotten nor less stale. */
+    /** map() is without a shoot: no core forgets what it noted ahead of it, and the note is stale still. */
     private static void staleWithoutAShoot() {
-        Subject x = Subject.mapped(2, 1);
-        x.look(1, 0, false);
-        x.unmap(0, 0, 0);
-        x.map(0, 0, 9, true);
-        Due.due("stale", x.note(1, 0, 5), 1);
-        Due.due("one shoot", x.count(2), 1);
-        Due.due("one generation", x.count(10), 1);
-        Due.due("one call", x.core(1, 3), 1);
-        Due.due("goes by what was", x.look(1, 0, true), 0);
-        Due.due("who began it does not", x.look(0, 0, true), 9);
-        x.take(1);
-        Due.due("nor this one now", x.look(1, 0, true), 9);
+        for (int c = 0; c < 4; c++) {
+            int other = (c + 1) % 4;
+            Subject x = Subject.mapped(4, 1);
+            x.look(c, 0, false);
+            x.unmap(other, 0, 0);
+            x.map(0, 0, 9, true);
+            Due.due("keeps its note", x.core(c, 2), 1);
+            Due.due("stale", x.note(c, 0, 5), 1);
+            Due.due("one shoot", x.count(2), 1);
+            Due.due("one generation", x.count(10), 1);
+            Due.due("one call", x.core(c, 3), 1);
+            Due.due("goes by what was", x.look(c, 0, true), 0);
+            Due.due("who began it does not", x.look(other, 0, true), 9);
+            x.take(c);
+            Due.due("nor this one now", x.look(c, 0, true), 9);
+        }
     }
 
     private static void hitsAndOldOnes() {

@@ -18,8 +18,8 @@ public final class EdgesTest {
     private static final int[] NOTES = {LEAST, -1, 0, 1, 2, 3, 4, GREATEST};
     private static final int[] SHOOTS = {LEAST, -1, 0, 1, 2, 38, 39, 40, GREATEST};
     private static final int[] ENTRIES = {LEAST, -1, 0, 1, 2, 18, 19, 20, 21, GREATEST};
-    private static final int[] WHATS = {LEAST, LEAST + 4, LEAST + 8, LEAST + 10, -1, 0, 1, 2, 3, 4, 5, 6, 7, 8, 9, 10, 11,
-        12, 13, GREATEST};
+    private static final int[] WHATS = {LEAST, LEAST + 4, LEAST + 8, LEAST + 10, -1, 0, 1, 2, 3, 4, 5, 6, 7, 8, 9, 10,
+        11, 12, 13, GREATEST};
     private static final boolean[] FLAGS = {false, true};
 
     private static final List<Call> AFTERWARDS = afterwards();

@@ -229,7 +229,8 @@ public final class NumbersTest {
             numbers("promise 20: history of " + entries, x, 0, kept - 1, NONE, (y, k) -> y.history(2, 15, k));
             for (int k = 0; k < kept; k++) {
                 int change = k + entries - kept;
-                Due.due("promise 20: history " + k + " of " + entries, x.history(2, 15, k), change == 0 ? 0 : change + 1);
+                int since = change == 0 ? 0 : change + 1;
+                Due.due("promise 20: history " + k + " of " + entries, x.history(2, 15, k), since);
             }
         }
     }

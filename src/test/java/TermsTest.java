@@ -400,7 +400,7 @@ public final class TermsTest {
         return x;
     }
 
-    /** Some note "of any CORE is of a SPACE and PAGE, STALE, and its CORE could go by it now (AWAKE, in the SPACE)". */
+    /** A note "of a SPACE and PAGE, STALE, and its CORE could go by it now (AWAKE, in the SPACE)". */
     private static void dangerNeedsEachPart() {
         Subject x = Subject.mapped(2, 2);
         x.map(1, 0, 9, true);
